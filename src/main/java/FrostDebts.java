@@ -24,9 +24,9 @@ public final class FrostDebts {
     private static final int ALL_OVER = 0;
 
     private final Text[] texts = {new Text(PLACE_BYTES), new Text(NIGHT_BYTES), new Text(DEBT_BYTES)};
-    private final Places places = new Places();
+    private final Weather weather = new Weather();
+    private final Places places = weather.places;
     private final Debts debts = new Debts();
-    private final Weather weather = new Weather(places);
     private final Marks sights = new Marks();
     private final Spans trial = new Spans();
     private final Sheet[] sheets = {new Sheet(), new Sheet(), new Sheet(), new Sheet()};
@@ -766,7 +766,7 @@ public final class FrostDebts {
 
     /** When it freezes where: as told, or had something been otherwise. */
     private static final class Weather {
-        final Places places;
+        final Places places = new Places();
         final Marks clouds = new Marks();
         final Marks smokes = new Marks();
         final Marks ices = new Marks();
@@ -779,10 +779,6 @@ public final class FrostDebts {
         final Spans iced = new Spans();
         /** The nights of frost or ice. */
         final Spans told = new Spans();
-
-        Weather(Places places) {
-            this.places = places;
-        }
 
         void parse(Text read, int length) {
             nights = Math.min(length, NIGHTS);

@@ -81,6 +81,11 @@ public final class PromisesTest {
         due(3, "no nights, no frost", x.first(0), NONE);
         due(3, "places", x.wipe(0), 14);
         due(3, "no places", x.count(0), 0);
+        typeAll(x, 0, "9o");
+        typeAll(x, 1, "a");
+        typeAll(x, 2, "ab01000");
+        due(3, "nothing is left of what was wiped", x.had(39), 1);
+        due(3, "nor of its debts", x.free(2, 0) + x.never() + x.owes(0, 0, 0), 0);
     }
 
     private static void undoing() {
