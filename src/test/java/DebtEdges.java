@@ -198,6 +198,12 @@ final class DebtEdges extends Edges {
         s.due("frost in 39", oneDebt(39, 0).free(0, 0), 39);
         s.due("frost in 0", oneDebt(0, 0).free(0, 0), 0);
         s.due("no frost", oneDebt(40, 0).free(0, 0), NONE);
+        FrostDebts undone = typed("0o", "z", "ab01000;cb01000");
+        for (int i = 0; i < 8; i++) undone.undo(2);
+        s.due("whose debt is undone", undone.free(2, 0), 0);
+        s.due("whose is left", undone.free(0, 0), NONE);
+        undone.wipe(2);
+        s.due("then none", undone.free(0, 0), 0);
         s.due("owing nothing, from 0 on", new FrostDebts().free(5, 0), 0);
         s.due("owing nothing, from 39 on", new FrostDebts().free(5, 39), 39);
 

@@ -68,6 +68,10 @@ final class DigestEdges extends Edges {
             + " never(), carried(), year(7, NONE); as longs that wrap.");
         FrostDebts[] states = states();
         for (int i = 0; i < states.length; i++) s.due("state " + i, states[i].digest(), foldedAnswers(states[i]));
+        for (int n = 0; n < 40; n++) {
+            FrostDebts one = typed("0o;0o;9s", times("z", n, "") + "a" + times("z", 39 - n, ""), "ab01000;cb02138;da04239");
+            s.due("cold in " + n + " alone", one.digest(), foldedAnswers(one));
+        }
         List<Long> empty = new ArrayList<>();
         add(empty, 0, 0, 0, 0, 0, 0, 0, 0, NONE, NONE, NONE);
         for (int p = 0; p < 6; p++) add(empty, 0, 0, 0, BAD, BAD);

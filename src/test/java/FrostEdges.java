@@ -46,6 +46,12 @@ final class FrostEdges extends Edges {
         s.due("once more", same.cloud(0), FULL);
         same.back(0);
         s.due("seven are enough", same.first(0), NONE);
+        FrostDebts two = typed("0o", "a", "");
+        two.cloud(0);
+        two.cloud(0);
+        s.due("two are as one", two.first(0), NONE);
+        two.back(0);
+        s.due("one is left", two.first(0), NONE);
         FrostDebts early = new FrostDebts();
         s.due("told ahead of its night", early.cloud(0), 1);
         typeAll(early, 0, "0o");
@@ -65,6 +71,10 @@ final class FrostEdges extends Edges {
         typeAll(told, 1, "aa");
         s.due("it is there then", told.first(7), 1);
         s.due("not elsewhere", told.first(6), 0);
+        told.smoke(0, 7);
+        s.due("two are as one", told.first(7), 1);
+        told.back(1);
+        s.due("one is left", told.first(7), 1);
     }
 
     /** For each ZERO a night of just that warmth, and one of one less. */
@@ -115,6 +125,12 @@ final class FrostEdges extends Edges {
         for (int i = 0; i < 8; i++) s.due("ice " + i, x.ice(39, i), i + 1);
         s.due("one too many", x.ice(0, 0), FULL);
         for (int p = 0; p < 8; p++) s.due("place " + p, x.first(p), 39);
+        FrostDebts two = typed("0o", "zz", "");
+        two.ice(1, 0);
+        two.ice(1, 0);
+        s.due("two are as one", two.first(0), 1);
+        two.back(2);
+        s.due("one is left", two.first(0), 1);
 
         s.says(TERMS, "if there are both");
         FrostDebts y = typed("0o;0o", "zz", "");
