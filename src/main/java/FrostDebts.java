@@ -428,8 +428,8 @@ public final class FrostDebts {
     /** A row of items may end behind a whole item alone, not behind its ; */
     private static boolean isEnded(int text, int length) {
         if (length == 0 || text == NIGHT_TEXT) return true;
-        int step = text == PLACE_TEXT ? PLACE_STEP : DEBT_STEP;
-        return length % step == step - 1;
+        if (text == PLACE_TEXT) return length % PLACE_STEP == PLACE_STEP - 1;
+        return length % DEBT_STEP == DEBT_STEP - 1;
     }
 
     private static boolean isFigure(int b, int most) {

@@ -31,17 +31,16 @@ public final class LanguageTest {
             Matcher found = Pattern.compile(word).matcher(code);
             if (found.find()) check(false, "the source has " + found.group());
         }
-        Matcher used = Pattern.compile("\\b(Math|Long|Integer)\\.(\\w+)").matcher(code);
-        while (used.find()) check(Set.of("max", "min", "bitCount").contains(used.group(2)), "the library: " + used.group());
     }
 
-    /** All rows are made once, in fields or in the constructor of Row. */
-    private static void checkMaking(String code) {
-        for (String line : code.split("\n")) {
-            if (!line.matches(".*\\bnew\\b.*")) continue;
-            boolean isField = line.matches("\\s+(private )?final \\S+ \\w+ = .*;");
-            boolean isMadeWithIts = line.matches("\\s+(items|bytes) = new .*;");
-            check(isField || isMadeWithIts, "made by a call: " + line.trim());
+    /** Divisors, indexes, loops, what is made by calls, and how deep these go. */
+    private static void checkParsed(ParsedSource parsed) {
+        for (String fault : parsed.faults) check(false, fault);
+        check(Set.of("Math.max", "Math.min", "Long.bitCount").containsAll(parsed.libraryCalls), "the library: " + parsed.libraryCalls);
+        check(!parsed.publicMethods.isEmpty(), "no public methods are parsed");
+        for (String method : parsed.publicMethods) {
+            int depth = parsed.depthOf(method, 0);
+            check(depth <= ParsedSource.DEEP, "calls from " + method + " on go " + depth + " deep, or deeper");
         }
     }
 
@@ -120,7 +119,7 @@ public final class LanguageTest {
     public static void main(String[] args) throws java.io.IOException {
         String code = Files.readString(SOURCE).replaceAll("(?s)/\\*.*?\\*/", "").replaceAll("//[^\n]*", "");
         checkWords(code);
-        checkMaking(code);
+        checkParsed(new ParsedSource(SOURCE));
         checkLengths(code);
         checkFace();
         checkFields();
